@@ -879,7 +879,7 @@ public final class PointingArms {
         private void goOnFrom(int part) {
             for (int i = 0; i < size; i++) {
                 int more = part | meanings[i];
-                if (least[more] > least[part] + 1) {
+                if (more < SETS && least[more] > least[part] + 1) {
                     least[more] = least[part] + 1;
                 }
             }

@@ -292,6 +292,13 @@ final class PromiseTest {
         x.make(1, 4, 3);
         due.is("it has gone; of like ones the lesser number", x.means(0, 1, 0, 2), 1);
         due.is("none", x.means(0, -1, 0, 60), 0);
+        x.rule(0, 0);
+        x.walk(0, 20, 20);
+        x.make(0, 0, 0);
+        x.make(0, 1, 0);
+        due.is("means by the longest arm back", x.means(0, -9, -9, 0), 3);
+        due.is("means beyond it by x", x.means(0, -10, -9, 0), BAD);
+        due.is("means beyond it by y", x.means(0, -9, -10, 0), BAD);
         due.is("means nobody", x.means(1, 1, 0, 0), BAD);
         due.is("means nobody below", x.means(-1, 1, 0, 0), BAD);
         due.is("means no arm", x.means(0, 0, 0, 0), BAD);
@@ -385,6 +392,11 @@ final class PromiseTest {
         last.make(0, 4, 1);
         last.person(0, 20);
         due.is("when level with him", last.when(0, 1, 0, 0), 20);
+        last.make(0, 3, 1);
+        last.make(0, 4, 0);
+        due.is("when at the last tick", last.when(0, 3, -1, 0), 60);
+        last.walk(0, 1, 20);
+        due.is("when a tick too late", last.when(0, 3, -1, 0), NONE);
     }
 
     private static void misread() {
@@ -415,6 +427,9 @@ final class PromiseTest {
         x.walk(1, 0, 5);
         due.is("one misreads the other", x.bargain(0, 1, 0, 1, 2, -1), NOT);
         x.walk(1, 0, 9);
+        due.is("p alone misreads", x.bargain(0, 1, 0, 1, 9, -6), NOT);
+        due.is("q alone misreads", x.bargain(1, 9, -6, 0, 1, 0), NOT);
+        due.is("both read it", x.bargain(0, 1, 0, 1, 9, -7), 1);
         x.thing(15, 10, 1);
         due.is("an arm that means more", x.bargain(0, 1, 0, 1, 1, -1), NOT);
         x.rule(0, 1);
@@ -488,6 +503,9 @@ final class PromiseTest {
         due.is("aside of like ones by y", x.aside(2, 5, 10, 1), 508);
         due.is("aside on the thing: of like ones by y, then x", x.aside(1, 10, 10, 9), 1009);
         due.is("aside at the brim", x.aside(1, 0, 0, 1), 0);
+        x.make(1, 0, 19);
+        due.is("aside 6 away, of like ones by y", x.aside(2, 1, 10, 1), 104);
+        due.is("aside 7 away is too far", x.aside(2, 0, 10, 9), NONE);
         x.make(0, 2, 5);
         x.make(1, 0, 0);
         x.make(1, 1, 0);
