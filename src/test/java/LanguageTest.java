@@ -25,6 +25,7 @@ final class LanguageTest {
         due.is("final", Modifier.isFinal(face.getModifiers()) ? 1 : 0, 1);
         methods(face);
         fields(face);
+        constants(face);
         for (Constructor<?> constructor : face.getDeclaredConstructors()) {
             due.is("constructor without parameters", constructor.getParameterCount(), 0);
         }
@@ -73,6 +74,23 @@ final class LanguageTest {
             due.is(field.getName() + " is hidden or a constant", !isShown || isConstant ? 1 : 0, 1);
         }
         due.is("at most twenty fields in " + type.getName(), own <= 20 ? 1 : 0, 1);
+    }
+
+    /** The face has these constants and no others. */
+    private static void constants(Class<?> face) {
+        Set<String> seen = new TreeSet<>();
+        for (Field field : face.getFields()) {
+            seen.add(field.getName());
+        }
+        due.is("the constants are " + seen, seen.toString().equals("[BAD, CAST, FULL, INDEX, NONE, NOT, NULL, SIZE]") ? 1 : 0, 1);
+        due.is("BAD", PointingArms.BAD, -1);
+        due.is("NOT", PointingArms.NOT, -2);
+        due.is("FULL", PointingArms.FULL, -3);
+        due.is("NONE", PointingArms.NONE, -4);
+        due.is("NULL", PointingArms.NULL, -11);
+        due.is("CAST", PointingArms.CAST, -12);
+        due.is("INDEX", PointingArms.INDEX, -13);
+        due.is("SIZE", PointingArms.SIZE, -14);
     }
 
     private static void inside(Class<?> inside) {

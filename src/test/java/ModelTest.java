@@ -10,10 +10,11 @@ final class ModelTest {
     public static void main(String[] args) {
         due.is("the fan", Model.fan().size(), 80);
         for (int scene = 0; scene < 90; scene++) {
-            PointingArms x = new PointingArms();
-            Model model = new Model();
-            fill(x, model, scene);
             for (int laws = 0; laws < 4; laws++) {
+                // A new one for each: an object is good for 512 calls.
+                PointingArms x = new PointingArms();
+                Model model = new Model();
+                fill(x, model, scene);
                 model.law0 = laws & 1;
                 model.law1 = laws >> 1;
                 x.rule(0, model.law0);
