@@ -274,6 +274,13 @@ final class Part3EdgeTest extends Edges {
         is("from beside again", x.fewest(3, 5, 5), 2);
     }
 
+    /** The row of two is the third meaning from the first point, and there are but two from the second. */
+    static void promise22_more_that_was_meant_before_does_not_matter() {
+        PointingArms x = with("5,10,0;8,10,0;0,5,0;5,5,0");
+        is("two above and a row", x.fewest(15, 0, 10), 3);
+        is("the row from beside", x.fewest(3, 5, 5), 2);
+    }
+
     static void promise22_it_is_tick_0() {
         for (int v : CROSSINGS) {
             is("the first of two", crossing(v).fewest(1, 0, 10), 1);
